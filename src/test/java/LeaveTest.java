@@ -128,6 +128,9 @@ public final class LeaveTest {
         Due.rules(x, "pair 5 6;pair 4 2;pair 2 6;pair 5 20;");
         due.is("19: pairs, too", 128, x.need(2));
         due.is("19: pairs of its own verses alone", 6, x.need(1));
+        Due.rules(x, "pair 0 6;");
+        due.is("19: pairs of the first verse", 128 | 6, x.need(0));
+        due.is("19: and the other way round", 128, x.need(3));
         due.is("19: song", -1, x.need(4));
         due.is("19: song", -1, x.need(-1));
     }

@@ -9,9 +9,11 @@ public final class ModelTest {
     private final WaysSung x = new WaysSung();
     private final Model m = new Model();
     private final String run;
+    private final boolean longSteps;
 
     private ModelTest(int seed) {
         random = new Random(seed);
+        longSteps = random.nextInt(3) == 0;
         run = "run " + seed + " ";
     }
 
@@ -24,6 +26,11 @@ public final class ModelTest {
 
     private void play() {
         people();
+        if (longSteps) {
+            Due.text(x, "carry 20;");
+            m.tape = "carry 20;";
+            is("rules", 0, 0, 0, m.rules(), x.rules());
+        }
         int calls = 100 + random.nextInt(300);
         for (int i = 0; i < calls; i++) {
             call(random.nextInt(41));
@@ -32,13 +39,14 @@ public final class ModelTest {
 
     /** A land with something in it, so that most calls have something to find. */
     private void people() {
-        for (int i = random.nextInt(12); i >= 0; i--) {
+        boolean full = random.nextInt(3) == 0;
+        for (int i = full ? 20 : random.nextInt(12); i >= 0; i--) {
             build(0);
         }
-        for (int i = random.nextInt(26); i >= 0; i--) {
+        for (int i = full ? 40 : random.nextInt(26); i >= 0; i--) {
             build(1);
         }
-        for (int i = random.nextInt(9); i >= 0; i--) {
+        for (int i = full ? 14 : random.nextInt(9); i >= 0; i--) {
             build(2);
         }
         for (int i = random.nextInt(120); i >= 0; i--) {
@@ -70,7 +78,7 @@ public final class ModelTest {
         } else if (what == 1) {
             int p = near(x.count(0));
             int tongue = near(random.nextBoolean() ? 3 : 9);
-            int days = random.nextBoolean() ? 1 : near(5);
+            int days = random.nextBoolean() ? 1 : near(longSteps ? 10 : 5);
             int held = random.nextInt(3) > 0 ? -4 : near(random.nextBoolean() ? 3 : 8);
             is("verse", a, p, days, m.verse(a, p, tongue, days, held), x.verse(a, p, tongue, days, held));
         } else {
@@ -191,7 +199,7 @@ public final class ModelTest {
     }
 
     private void text() {
-        StringBuilder text = new StringBuilder();
+        StringBuilder text = new StringBuilder(longSteps ? "carry " + (5 + random.nextInt(16)) + ";" : "");
         for (int i = random.nextInt(7); i >= 0; i--) {
             text.append(line());
         }

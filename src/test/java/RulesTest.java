@@ -7,6 +7,7 @@ public final class RulesTest {
         told();
         faults();
         edges();
+        cutOff();
         stays();
         due.close();
     }
@@ -125,6 +126,23 @@ public final class RulesTest {
         }
         due.is("13: 200 bytes", 8, Due.rules(x, full.toString()));
         due.is("15: hear", 255, x.rule(10));
+    }
+
+    private static void cutOff() {
+        WaysSung x = new WaysSung();
+        Due.text(x, "sing 51234");
+        x.end(7);
+        due.is("12: figures that are cut off", -17, x.rules());
+        due.is("14: figures that are cut off", 2, x.fault());
+        Due.text(x, "sing 5;singing");
+        x.end(11);
+        due.is("12: letters that are cut off", -17, x.rules());
+        due.is("14: letters that are cut off", 4, x.fault());
+        String blanks = " ".repeat(192);
+        due.is("13: a name to the very end", -210, Due.rules(x, blanks + "    sing"));
+        due.is("14: a name to the very end", 2, x.fault());
+        due.is("13: a number to the very end", -210, Due.rules(x, blanks + " sing 12"));
+        due.is("13: a line to the very end", 1, Due.rules(x, blanks + "sing 12;"));
     }
 
     private static void stays() {

@@ -75,6 +75,14 @@ public final class WaysTest {
         due.is("20: dry", -4, x.way(1, 0, 4));
         Due.rules(x, "dry 3 7;carry 20;");
         due.is("20: carried", 6, x.way(1, 0, 4));
+        WaysSung z = row(new int[] {1, 0, 0, 1, 0, 0}, new int[] {0, 9, 9, 2, 9, 9});
+        Due.rules(z, "carry 20;");
+        due.is("20: the longest steps", 38, z.way(1, 0, 5));
+        due.is("20: and back", 38, z.way(1, 5, 0));
+        due.is("22: the longest steps", 63, z.reach(1, 0));
+        Due.rules(z, "carry 19;");
+        due.is("20: a day too long", -4, z.way(1, 0, 5));
+        due.is("22: a day too long", 7, z.reach(1, 0));
         WaysSung y = row(new int[] {15, 0}, new int[] {0, 4});
         due.is("20: one step too long", -4, y.way(1, 0, 1));
         Due.rules(y, "carry 4;");
