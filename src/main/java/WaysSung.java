@@ -552,6 +552,7 @@ public final class WaysSung {
         return people.had[who] & songs.openOrHeldBy(people.kin[who]);
     }
 
+    /** Fills voices with what each one may sing, once for all the sets that are tried. */
     private void hearVoices() {
         for (int i = 0; i < people.size; i++) {
             voices[i] = singable(i);
@@ -578,6 +579,7 @@ public final class WaysSung {
         return verses;
     }
 
+    /** What is led by people who can sing these verses among them. */
     private int ledWhere(int sung) {
         int led = 0;
         for (int v = 0; v < songs.size; v++) {
@@ -954,11 +956,11 @@ public final class WaysSung {
         }
 
         private boolean isLetter(int i) {
-            return i < length && bytes[i] >= 'a' && bytes[i] <= 'z';
+            return bytes[i] >= 'a' && bytes[i] <= 'z';
         }
 
         private boolean isFigure(int i) {
-            return i < length && bytes[i] >= '0' && bytes[i] <= '9';
+            return bytes[i] >= '0' && bytes[i] <= '9';
         }
 
         private boolean spells(int from, int to, String name) {
@@ -1046,7 +1048,7 @@ public final class WaysSung {
         }
 
         private boolean name() {
-            while (tape.isLetter(next)) {
+            while (next < tape.length && tape.isLetter(next)) {
                 next++;
             }
             kind = NAME;
@@ -1076,7 +1078,7 @@ public final class WaysSung {
         private boolean figures() {
             kind = NUMBER;
             value = 0;
-            while (tape.isFigure(next)) {
+            while (next < tape.length && tape.isFigure(next)) {
                 // A number too long is refused below, so what it wraps to is never used.
                 value = value * 10 + (tape.bytes[next] - '0');
                 next++;
