@@ -1,26 +1,51 @@
 /** Counts and prints the answers that are not the ones that are due. */
 final class Due {
     private final String name;
+    private String sentence = "";
     private int calls;
     private int wrong;
+    private int sentences;
+    private int callsAhead;
 
     Due(String name) {
         this.name = name;
+    }
+
+    /** What follows tests this sentence of the document; one that tests nothing is a fault, too. */
+    void of(int promise, String words) {
+        endSentence();
+        sentence = promise + " \"" + words + "\" ";
+        sentences++;
+        callsAhead = calls;
     }
 
     void is(String call, long want, long got) {
         calls++;
         if (got != want) {
             wrong++;
-            System.out.println(name + ": " + call + " answered " + got + ", due is " + want);
+            System.out.println(name + ": " + sentence + call + " answered " + got + ", due is " + want);
         }
     }
 
     void close() {
-        System.out.println(name + ": " + calls + " answers, " + wrong + " not as due");
+        endSentence();
+        String told = sentences == 0 ? "" : sentences + " sentences, ";
+        System.out.println(name + ": " + told + calls + " answers, " + wrong + " not as due");
         if (wrong != 0 || calls == 0) {
             System.exit(1);
         }
+    }
+
+    private void endSentence() {
+        if (sentences > 0 && calls == callsAhead) {
+            wrong++;
+            System.out.println(name + ": " + sentence + "has no test");
+        }
+    }
+
+    /** Numbers that are not from least to most: the nearest ones, and the farthest. */
+    static int[] outside(int least, int most) {
+        return new int[] {Integer.MIN_VALUE, least - 1, most + 1, Integer.MAX_VALUE};
     }
 
     /** Puts a text on the tape. */
