@@ -220,6 +220,10 @@ public final class KeepingEdgesTest {
             due.is("to " + i, i + 1, x.teach(0, i, 23));
         }
         due.is("that verse alone", 1 << 23, x.oneOf(7, 3));
+        x.has(0, 5, true);
+        x.has(1, 4, true);
+        due.is("one who has others", 2, x.teach(0, 1, 5));
+        due.is("keeps them", 1 << 23 | 1 << 5 | 1 << 4, x.oneOf(1, 3));
         due.of(33, "STATE: it can not be: HAS it by teaching");
         due.is("again", STATE, x.teach(0, 7, 23));
         due.is("heads", 8, x.verseOf(23, 6));
@@ -291,6 +295,24 @@ public final class KeepingEdgesTest {
         due.is("one of the two died", 1, x.keep(9));
         x.dies(2);
         due.is("nobody else lives", 0, x.keep(9));
+        WaysSung z = land(1);
+        people(z, 2);
+        z.has(1, 0, true);
+        due.is("the first of the people can learn", 1, z.keep(1));
+        z = land(1);
+        people(z, 1);
+        for (int i = 1; i < 8; i++) {
+            z.one(0, 50, 2);
+        }
+        z.has(0, 0, true);
+        due.is("none of seven others can learn", 0, z.keep(9));
+        z = land(1);
+        for (int i = 1; i < 8; i++) {
+            z.one(0, 50, 2);
+        }
+        people(z, 1);
+        z.has(7, 0, true);
+        due.is("the last of the people has it, none can learn", 0, z.keep(9));
         WaysSung y = new WaysSung();
         y.place(0, 0);
         y.verse(0, 0, 0, 1, 3);

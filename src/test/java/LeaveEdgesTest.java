@@ -266,5 +266,13 @@ public final class LeaveEdgesTest {
         Due.rules(x, "pair 12 9;pair 9 3;");
         due.is("two pairs", 1 | 8, x.need(3));
         due.is("a pair of a pair is not in it", 1, x.need(1));
+        WaysSung y = new WaysSung();
+        y.place(0, 0);
+        for (int v = 0; v < 24; v++) {
+            y.verse(v < 2 ? 0 : v > 21 ? 1 : 2, 0, 0, 1, v < 2 || v > 21 ? NONE : v % 8);
+        }
+        Due.rules(y, "pair 0 2;pair 1 3;pair 22 4;pair 5 23;pair 0 1;");
+        due.is("each of its verses in a pair, the first, too", 1 << 2 | 1 << 3, y.need(0));
+        due.is("each of its verses in a pair, the last, too", 1 << 4 | 1 << 5, y.need(1));
     }
 }

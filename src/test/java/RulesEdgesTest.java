@@ -111,6 +111,15 @@ public final class RulesEdgesTest {
             due.is("rule " + at[i], atFirst[i], x.rule(at[i]));
         }
         due.is("dry no more", NONE, x.placeOf(0, 3));
+        Due.rules(x, "pair 0 23;hear 0 0;hear 7 7;dry 11 0;");
+        x.rules();
+        for (int what : new int[] {10, 17, 30, 53}) {
+            due.is("the first and the last, rule " + what, 0, x.rule(what));
+        }
+        for (int p = 1; p < 12; p++) {
+            x.place(0, 15);
+        }
+        due.is("the last is dry no more", NONE, x.placeOf(11, 3));
         Due.rules(x, "sing 5;hear 1 2;dry 0 1;pair 3 4;");
         due.is("the same again in another text", 4, Due.rules(x, "sing 5;hear 1 2;dry 0 1;pair 3 4;"));
         due.of(13, "THE TAPE (empty then)");
@@ -128,6 +137,11 @@ public final class RulesEdgesTest {
         takes("hear1 2;", 1);
         refuses("hear 12;", 5, 3);
         refuses("singtell 1;", 0, 1);
+        refuses("singa 1;", 0, 1);
+        refuses("singz 1;", 0, 1);
+        refuses("sing 1a;", 6, 1);
+        refuses("sing 129;", 5, 1);
+        refuses("sing 120;", 5, 1);
         refuses("sing tell 1;", 5, 2);
         refuses("sing 1 2;", 7, 2);
         refuses("sing 1\n;", 6, 1);

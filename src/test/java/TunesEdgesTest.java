@@ -148,6 +148,7 @@ public final class TunesEdgesTest {
             due.is("verse " + verse, BAD, x.sure(verse));
         }
         due.of(28, "NONE: the SONG ends ahead");
+        due.is("one verse alone in the land", NONE, songs(new int[] {3}).sure(0));
         due.is("the last", NONE, x.sure(1));
         due.is("one step is enough", 1, x.sure(0));
         x.verse(1, 0, 0, 1, NONE);

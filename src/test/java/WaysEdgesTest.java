@@ -159,6 +159,11 @@ public final class WaysEdgesTest {
         due.is("a step ahead of it too long", NONE, row("", 0, wetMiddle, 0, 4, 3));
         due.is("water at the end alone is too late", NONE, row("", 0, wetEnd, 0, 2, 2));
         due.is("water at both ends of a step too long", NONE, row("", 0, new int[] {15, 15}, 0, 4));
+        due.is("at each place in turn", 27, row("", 0, new int[] {15, 15, 15, 15, 15, 15, 15, 15, 15, 15}, 0, 3, 3, 3, 3, 3, 3, 3, 3, 3));
+        for (int middle = 0; middle < 12; middle++) {
+            due.is("at place " + middle, 6, over(middle, 15));
+            due.is("not at place " + middle, NONE, over(middle, 0));
+        }
         due.of(20, "a PLACE that HAS WATER: in THE SEASON");
         due.is("in season 2", 6, row("", 2, new int[] {0, 4, 0}, 0, 3, 3));
         due.is("in another one", NONE, row("", 1, new int[] {0, 4, 0}, 0, 3, 3));
@@ -169,7 +174,37 @@ public final class WaysEdgesTest {
         due.is("they begin at a dry one", 6, row("dry 0 0;", 0, wetMiddle, 0, 3, 3));
     }
 
+    /** The days from one dry place to another one over a third, each step of 3 days. */
+    private static int over(int middle, int water) {
+        WaysSung x = new WaysSung();
+        for (int p = 0; p < 12; p++) {
+            x.place(0, p == middle ? water : 0);
+        }
+        sing(x, 0, 3, (middle + 1) % 12, middle, (middle + 2) % 12);
+        singer(x);
+        return x.way(1, (middle + 1) % 12, (middle + 2) % 12);
+    }
+
+    /** Two ways to place 3 in two days, by place 1 and by place 2, one of which has water; on to 4 in two. */
+    private static int fork(int water1, int water2) {
+        WaysSung x = places(1, 0);
+        x.place(0, water1);
+        x.place(0, water2);
+        x.place(0, 0);
+        x.place(0, 0);
+        sing(x, 0, 1, 0, 1, 3);
+        sing(x, 1, 1, 0, 2, 3);
+        sing(x, 2, 2, 3, 4);
+        singer(x);
+        return x.way(1, 0, 4);
+    }
+
     private static void wayWell() {
+        due.of(20, "the latest PLACE: of two ways that come there on the same day");
+        due.is("the one has water", 4, fork(15, 0));
+        due.is("the other has water", 4, fork(0, 15));
+        due.is("both have water", 4, fork(15, 15));
+        due.is("neither has water", NONE, fork(0, 0));
         due.of(20, "with WATER: at a PLACE twice, by the well");
         WaysSung x = places(4, 0);
         x.place(0, 15);
