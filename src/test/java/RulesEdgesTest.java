@@ -112,9 +112,11 @@ public final class RulesEdgesTest {
         }
         due.is("dry no more", NONE, x.placeOf(0, 3));
         Due.rules(x, "pair 0 23;hear 0 0;hear 7 7;dry 11 0;");
-        x.rules();
-        for (int what : new int[] {10, 17, 30, 53}) {
-            due.is("the first and the last, rule " + what, 0, x.rule(what));
+        for (int text = 1; text < 4; text++) {
+            x.rules();
+            for (int what : new int[] {10, 17, 30, 53}) {
+                due.is("empty text " + text + ", rule " + what, 0, x.rule(what));
+            }
         }
         for (int p = 1; p < 12; p++) {
             x.place(0, 15);
